@@ -178,8 +178,8 @@ public final class PolyLathe {
             throw new IllegalArgumentException("s and t need two registers");
         }
         euclid.walk(left, right);
-        firstTarget.become(euclid.first());
-        secondTarget.become(euclid.second());
+        firstTarget.become(euclid.makerOfFirst());
+        secondTarget.become(euclid.makerOfSecond());
         return euclid.common().high();
     }
 
@@ -365,7 +365,7 @@ public final class PolyLathe {
         switch (sort) {
             case 0:
                 answer.become(left);
-                answer.addMultiple(right, 1);
+                answer.addMultiple(right, 1, 0);
                 break;
             case 1:
                 answer.become(left);
@@ -562,8 +562,8 @@ public final class PolyLathe {
         }
 
         void become(Poly other) {
-            for (int k = 0; k < row.length; k++) {
-                row[k] = other.at(k);
+            for (int k = 0; k < row.length && k < other.row.length; k++) {
+                row[k] = other.row[k];
             }
             high = other.high;
         }
@@ -573,15 +573,24 @@ public final class PolyLathe {
             put(0, c);
         }
 
-        /** Adds c * other. */
-        void addMultiple(Poly other, int c) {
-            for (int k = 0; k <= other.high; k++) {
-                put(k, field.rest(at(k) + c * other.at(k)));
+        /** Adds c * x^shift * other; with put and at this would be too slow, as nearly all is reckoned here. */
+        void addMultiple(Poly other, int c, int shift) {
+            int p = field.p;
+            if (p < 2 || c == 0 || shift < 0) {
+                return;
             }
+            for (int k = 0; k <= other.high && k < other.row.length && k + shift < row.length; k++) {
+                row[k + shift] = (row[k + shift] + c * other.row[k]) % p;
+            }
+            int top = high > other.high + shift ? high : other.high + shift;
+            while (top >= 0 && (top >= row.length || row[top] == 0)) {
+                top--;
+            }
+            high = top;
         }
 
         void subtract(Poly other) {
-            addMultiple(other, field.minus(1));
+            addMultiple(other, field.minus(1), 0);
         }
 
         void scale(int c) {
@@ -593,10 +602,8 @@ public final class PolyLathe {
         /** Neither a nor b may be this one, and the degree of the product is not too great. */
         void becomeProduct(Poly a, Poly b) {
             clear();
-            for (int i = 0; i <= a.high; i++) {
-                for (int k = 0; k <= b.high; k++) {
-                    put(i + k, field.rest(at(i + k) + a.at(i) * b.at(k)));
-                }
+            for (int k = 0; k <= a.high; k++) {
+                addMultiple(b, a.at(k), k);
             }
         }
 
@@ -615,21 +622,19 @@ public final class PolyLathe {
                 if (quotient != null) {
                     quotient.put(shift, c);
                 }
-                int minus = field.minus(c);
-                for (int k = 0; k <= divisor.high && c != 0; k++) {
-                    put(shift + k, field.rest(at(shift + k) + minus * divisor.at(k)));
-                }
+                addMultiple(divisor, field.minus(c), shift);
             }
         }
 
         /** Multiplies by x and takes the remainder by m; the degree is less than that of m ahead. */
         void timesX(Poly m) {
-            int top = m.high - 1;
-            int over = field.times(at(top), field.inverse(m.lead()));
-            int c = field.minus(over);
-            for (int k = top; k >= 0; k--) {
-                put(k, field.rest(at(k - 1) + c * m.at(k)));
+            for (int k = Math.min(high + 1, row.length - 1); k > 0; k--) {
+                row[k] = row[k - 1];
             }
+            row[0] = 0;
+            high = high < 0 ? -1 : Math.min(high + 1, row.length - 1);
+            int c = field.times(at(m.high), field.inverse(m.lead()));
+            addMultiple(m, field.minus(c), 0);
         }
 
         /** The remainder of a * b by m; the degrees of a and b are less than that of m. */
@@ -637,7 +642,7 @@ public final class PolyLathe {
             clear();
             for (int k = b.high; k >= 0; k--) {
                 timesX(m);
-                addMultiple(a, b.at(k));
+                addMultiple(a, b.at(k), 0);
             }
         }
 
@@ -650,9 +655,10 @@ public final class PolyLathe {
         }
 
         int valueAt(int x) {
+            int p = field.p;
             int sum = 0;
-            for (int k = high; k >= 0; k--) {
-                sum = field.rest(sum * x + at(k));
+            for (int k = high; k >= 0 && k < row.length && p >= 2; k--) {
+                sum = (sum * x + row[k]) % p;
             }
             return sum;
         }
@@ -957,7 +963,7 @@ public final class PolyLathe {
         private void addUp(int sign) {
             Poly right = onPile(1);
             Poly left = onPile(2);
-            left.addMultiple(right, sign == '+' ? 1 : field.minus(1));
+            left.addMultiple(right, sign == '+' ? 1 : field.minus(1), 0);
             height--;
         }
 
@@ -1044,7 +1050,7 @@ public final class PolyLathe {
                 if (has(x)) {
                     int missing = field.rest(at(x) - target.valueAt(x));
                     int c = field.times(missing, field.inverse(knots.valueAt(x)));
-                    target.addMultiple(knots, c);
+                    target.addMultiple(knots, c, 0);
                     knots.timesRoot(x);
                 }
             }
@@ -1088,11 +1094,11 @@ public final class PolyLathe {
             return r;
         }
 
-        Poly first() {
+        Poly makerOfFirst() {
             return s;
         }
 
-        Poly second() {
+        Poly makerOfSecond() {
             return t;
         }
 
@@ -1233,7 +1239,10 @@ public final class PolyLathe {
             return countParts(rest) == 1;
         }
 
-        /** In each turn the factors go whose number in the rest is no multiple of p; then all are, and the rest is a pth power. */
+        /**
+         * A turn takes those factors off that stand in the rest a number of times that p does not divide: only they show
+         * in its derivative. Behind it the rest is a pth power, whose root is the next rest.
+         */
         void find(Poly a) {
             size = 0;
             rest.become(a);
@@ -1265,7 +1274,7 @@ public final class PolyLathe {
             rest.become(slope);
         }
 
-        /** Keeps the product of what has just one of each factor, as one piece; tells how many factors it has. */
+        /** Keeps, as one piece yet, the product of the factors that the derivative shows, each once; tells how many these are. */
         private int openSimpleParts() {
             euclid.meet(rest, slope);
             slope.become(rest);
@@ -1282,7 +1291,7 @@ public final class PolyLathe {
             }
         }
 
-        /** Each piece has its own number c, or some, so that v - c shares a factor with it. */
+        /** By each factor v is a number c, so what a piece and v - c have in common is the product of its factors with this c. */
         private void splitAt(int column, int first, int goal) {
             if (!makeVector(column)) {
                 return;
@@ -1332,14 +1341,14 @@ public final class PolyLathe {
             piece.become(quotient);
         }
 
-        /** How many factors a polynomial has that has none twice: as many as the v's dimension with v to the power of p = v by it. */
+        /** Where no factor stands twice, there are as many as the dimension of the v that are their own pth powers by a. */
         private int countParts(Poly a) {
             order = a.high();
             fillGrid(a);
             return order - eliminate();
         }
 
-        /** Column k tells what x^(k * p) - x^k is by a. */
+        /** Column k is the remainder of x^(k * p) - x^k by a, so that the v are what the grid turns into 0. */
         private void fillGrid(Poly a) {
             vector.becomeNumber(1);
             for (int column = 0; column < order; column++) {
@@ -1396,9 +1405,18 @@ public final class PolyLathe {
             for (int line = 0; line < order; line++) {
                 int c = field.minus(cell(line, column));
                 if (line != pivot && c != 0) {
-                    for (int k = column; k < order; k++) {
-                        putCell(line, k, field.rest(cell(line, k) + c * cell(pivot, k)));
-                    }
+                    addLine(line, pivot, c);
+                }
+            }
+        }
+
+        private void addLine(int to, int from, int c) {
+            int p = field.p;
+            for (int k = 0; k < order && p >= 2; k++) {
+                int there = to * TOP + k;
+                int here = from * TOP + k;
+                if (there >= 0 && there < grid.length && here >= 0 && here < grid.length) {
+                    grid[there] = (grid[there] + c * grid[here]) % p;
                 }
             }
         }

@@ -150,6 +150,12 @@ public final class PartsTest {
         lasts(x, "2*x^2+2", 4);
         lasts(x, "x^24-1", 24);
         lasts(x, "(x-3)^8", 294);
+        lasts(x, "x^20+x^10+x^5+2", 3000);
+        x.begin(47);
+        lasts(x, "x^4+x^2-1", 64);
+        lasts(x, "(x^4+x^2-1)*(x-1)", 64);
+        // 64 * 47 = 3008 is too long.
+        lasts(x, "(x^4+x^2-1)*(x-1)^2", -1);
         x.begin(2);
         lasts(x, "x^11+x^2+1", 2047);
         lasts(x, "x^12+x^6+x^4+x+1", -1);

@@ -163,6 +163,13 @@ public final class TextsTest {
         good(x, "((((((((1))))))))*((((((((x))))))))^2", "x^2");
         good(x, "(x)*(x)-(-x)", "x^2+x");
         good(x, "((((((((x*2+x*2*2^1-1+1+x*1))))))))", "0");
+        good(x, "1+1*(".repeat(8) + "1+1*x" + ")".repeat(8), "x+2");
+        good(x, "1-1*".repeat(99) + "x^2", "6x^2+1");
+        good(x, "x*1*".repeat(24) + "1", "x^24");
+        good(x, "1*".repeat(199) + "x", "x");
+        good(x, "1+".repeat(199) + "x", "x+3");
+        good(x, " ".repeat(399) + "x", "x");
+        good(x, "x" + " ".repeat(399), "x");
         x.set(9, 24, 1);
         good(x, "r9-r9+x", "x");
         good(x, "r9^2+r9", "x^2+x");
@@ -219,6 +226,10 @@ public final class TextsTest {
         bad(x, "x^25+", 1, 5);
         bad(x, "0*x^25", 2, 3);
         bad(x, "(x^24+x)*(x-x+1)*x", 2, 16);
+        bad(x, " ".repeat(400), 1, 400);
+        bad(x, "1+".repeat(200), 1, 400);
+        bad(x, "(" + "1+".repeat(199) + "x", 1, 400);
+        bad(x, "1+".repeat(198) + "x^25", 2, 397);
         bad(x, "x^13*(1+x^5*x^20)", 2, 11);
         Check.type(x, "x+5");
         Check.raises(x, "read -1", INDEX, () -> x.read(-1));
