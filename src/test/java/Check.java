@@ -1,4 +1,6 @@
 import java.nio.charset.StandardCharsets;
+import java.util.function.Consumer;
+import java.util.function.Supplier;
 
 /** What the tests share: comparing answers, and feeding texts. */
 final class Check {
@@ -45,18 +47,33 @@ final class Check {
         made++;
         long before = lathe.digest();
         int errorBefore = lathe.errorAt();
-        Class<?> thrown = null;
-        try {
-            call.run();
-        } catch (RuntimeException e) {
-            thrown = e.getClass();
-        }
+        Class<?> thrown = thrownBy(call);
         if (thrown != type) {
             complain(what + " threw " + thrown + ", due is " + type);
         }
         if (lathe.digest() != before || lathe.errorAt() != errorBefore) {
             complain(what + " threw and changed something");
         }
+    }
+
+    private static Class<?> thrownBy(Call call) {
+        try {
+            call.run();
+            return null;
+        } catch (RuntimeException e) {
+            return e.getClass();
+        }
+    }
+
+    /** The call throws just this class, and the object tells the same as a twin that it was not made on. */
+    static void refuses(String what, Class<? extends RuntimeException> type, Supplier<PolyLathe> maker, Consumer<PolyLathe> call) {
+        made++;
+        PolyLathe touched = maker.get();
+        Class<?> thrown = thrownBy(() -> call.accept(touched));
+        if (thrown != type) {
+            complain(what + " threw " + thrown + ", due is " + type);
+        }
+        dueText("all behind " + what, Bench.everything(touched), Bench.everything(maker.get()));
     }
 
     static void complain(String text) {
@@ -85,6 +102,12 @@ final class Check {
             four = four << 8 | (i < bytes.length ? bytes[i] & 255 : ' ');
         }
         return four;
+    }
+
+    static PolyLathe begun(int p) {
+        PolyLathe lathe = new PolyLathe();
+        lathe.begin(p);
+        return lathe;
     }
 
     static int read(PolyLathe lathe, int r, String text) {

@@ -124,9 +124,9 @@ public final class FaceTest {
         }
         Collections.sort(face, (a, b) -> a.getName().compareTo(b.getName()));
         int dice = 12345;
-        for (int round = 0; round < 40; round++) {
+        for (int round = 0; round < 150; round++) {
             PolyLathe x = new PolyLathe();
-            for (int call = 0; call < 512; call++) {
+            for (int call = 0; call < 512; call += 3) {
                 dice = dice * 1103515245 + 12345;
                 Method m = face.get((dice >>> 8) % face.size());
                 Object[] arguments = new Object[m.getParameterCount()];

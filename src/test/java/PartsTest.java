@@ -32,7 +32,8 @@ public final class PartsTest {
     }
 
     /** What is wanted: for each factor how it is written, ":" and how often it stands in the product. */
-    private static void factored(PolyLathe x, String text, String... want) {
+    private static void factored(int p, String text, String... want) {
+        PolyLathe x = Check.begun(p);
         Check.put(x, 0, text);
         long degree = x.degree(0);
         Check.due("factor of " + text, x.factor(0), want.length);
@@ -46,23 +47,19 @@ public final class PartsTest {
     }
 
     private static void factor() {
-        PolyLathe x = new PolyLathe();
-        factored(x, "3");
-        factored(x, "3*x", "x:1");
-        factored(x, "x^24", "x:24");
-        factored(x, "(x+3)^7*2", "x+3:7");
-        factored(x, "(x+3)^14*(x^2+1)^3*x", "x:1", "x+3:14", "x^2+1:3");
-        factored(x, "(x^2+1)^8*(x+1)^7", "x+1:7", "x^2+1:8");
-        factored(x, "(x^3+2)*(x^2+x+3)*(x^2+3*x+1)*(x^2+1)*(x+6)*(x+2)", "x+2:1", "x+6:1", "x^2+1:1", "x^2+x+3:1", "x^2+3x+1:1", "x^3+2:1");
-        factored(x, "x^7-x", "x:1", "x+1:1", "x+2:1", "x+3:1", "x+4:1", "x+5:1", "x+6:1");
-        x.begin(2);
-        factored(x, "x^24+1", "x+1:8", "x^2+x+1:8");
-        factored(x, "x^16+x", "x:1", "x+1:1", "x^2+x+1:1", "x^4+x+1:1", "x^4+x^3+1:1", "x^4+x^3+x^2+x+1:1");
-        factored(x, "(x^12+x^3+1)^2", "x^12+x^3+1:2");
-        x.begin(3);
-        factored(x, "(x+1)^9*(x^2+1)^6*(x+2)^3", "x+1:9", "x+2:3", "x^2+1:6");
-        x.begin(5);
-        factored(x, "x^24-1", "x+1:1", "x+2:1", "x+3:1", "x+4:1", "x^2+2:1", "x^2+3:1", "x^2+x+1:1", "x^2+x+2:1",
+        factored(7, "3");
+        factored(7, "3*x", "x:1");
+        factored(7, "x^24", "x:24");
+        factored(7, "(x+3)^7*2", "x+3:7");
+        factored(7, "(x+3)^14*(x^2+1)^3*x", "x:1", "x+3:14", "x^2+1:3");
+        factored(7, "(x^2+1)^8*(x+1)^7", "x+1:7", "x^2+1:8");
+        factored(7, "(x^3+2)*(x^2+x+3)*(x^2+3*x+1)*(x^2+1)*(x+6)*(x+2)", "x+2:1", "x+6:1", "x^2+1:1", "x^2+x+3:1", "x^2+3x+1:1", "x^3+2:1");
+        factored(7, "x^7-x", "x:1", "x+1:1", "x+2:1", "x+3:1", "x+4:1", "x+5:1", "x+6:1");
+        factored(2, "x^24+1", "x+1:8", "x^2+x+1:8");
+        factored(2, "x^16+x", "x:1", "x+1:1", "x^2+x+1:1", "x^4+x+1:1", "x^4+x^3+1:1", "x^4+x^3+x^2+x+1:1");
+        factored(2, "(x^12+x^3+1)^2", "x^12+x^3+1:2");
+        factored(3, "(x+1)^9*(x^2+1)^6*(x+2)^3", "x+1:9", "x+2:3", "x^2+1:6");
+        factored(5, "x^24-1", "x+1:1", "x+2:1", "x+3:1", "x+4:1", "x^2+2:1", "x^2+3:1", "x^2+x+1:1", "x^2+x+2:1",
             "x^2+2x+3:1", "x^2+2x+4:1", "x^2+3x+3:1", "x^2+3x+4:1", "x^2+4x+1:1", "x^2+4x+2:1");
     }
 
@@ -130,41 +127,36 @@ public final class PartsTest {
         Check.holds("one of two parts", !x.isIrreducible(0));
     }
 
-    private static void lasts(PolyLathe x, String text, int want) {
+    private static void lasts(int p, String text, int want) {
+        PolyLathe x = Check.begun(p);
         Check.put(x, 0, text);
         Check.due("period of " + text, x.period(0), want);
     }
 
     private static void period() {
-        PolyLathe x = new PolyLathe();
-        lasts(x, "0", -1);
-        lasts(x, "1", 1);
-        lasts(x, "5", 1);
-        lasts(x, "x", -1);
-        lasts(x, "x*(x-1)", -1);
-        lasts(x, "x-1", 1);
-        lasts(x, "3*x-3", 1);
-        lasts(x, "x+1", 2);
-        lasts(x, "x-3", 6);
-        lasts(x, "(x-1)^2", 7);
-        lasts(x, "2*x^2+2", 4);
-        lasts(x, "x^24-1", 24);
-        lasts(x, "(x-3)^8", 294);
-        lasts(x, "x^20+x^10+x^5+2", 3000);
-        x.begin(47);
-        lasts(x, "x^4+x^2-1", 64);
-        lasts(x, "(x^4+x^2-1)*(x-1)", 64);
+        lasts(7, "0", -1);
+        lasts(7, "1", 1);
+        lasts(7, "5", 1);
+        lasts(7, "x", -1);
+        lasts(7, "x*(x-1)", -1);
+        lasts(7, "x-1", 1);
+        lasts(7, "3*x-3", 1);
+        lasts(7, "x+1", 2);
+        lasts(7, "x-3", 6);
+        lasts(7, "(x-1)^2", 7);
+        lasts(7, "2*x^2+2", 4);
+        lasts(7, "x^24-1", 24);
+        lasts(7, "(x-3)^8", 294);
+        lasts(7, "x^20+x^10+x^5+2", 3000);
+        lasts(47, "x^4+x^2-1", 64);
+        lasts(47, "(x^4+x^2-1)*(x-1)", 64);
         // 64 * 47 = 3008 is too long.
-        lasts(x, "(x^4+x^2-1)*(x-1)^2", -1);
-        x.begin(2);
-        lasts(x, "x^11+x^2+1", 2047);
-        lasts(x, "x^12+x^6+x^4+x+1", -1);
-        x.begin(3);
-        lasts(x, "(x^7+2*x^2+1)", 2186);
-        x.begin(53);
-        lasts(x, "x^2+x+5", 2808);
-        x.begin(59);
-        lasts(x, "x^2+x+2", -1);
+        lasts(47, "(x^4+x^2-1)*(x-1)^2", -1);
+        lasts(2, "x^11+x^2+1", 2047);
+        lasts(2, "x^12+x^6+x^4+x+1", -1);
+        lasts(3, "(x^7+2*x^2+1)", 2186);
+        lasts(53, "x^2+x+5", 2808);
+        lasts(59, "x^2+x+2", -1);
     }
 
     private static void meanDegree() {

@@ -1,3 +1,5 @@
+import java.util.function.Supplier;
+
 /** Promises 1 to 12: numbers and texts. */
 public final class TextsTest {
     private static final Class<IndexOutOfBoundsException> INDEX = IndexOutOfBoundsException.class;
@@ -42,7 +44,8 @@ public final class TextsTest {
                 primes++;
             } else {
                 int q = p;
-                Check.raises(x, "begin " + p, ARGUMENT, () -> x.begin(q));
+                PolyLathe y = new PolyLathe();
+                Check.raises(y, "begin " + p, ARGUMENT, () -> y.begin(q));
             }
         }
         Check.due("primes", primes, 25);
@@ -108,13 +111,15 @@ public final class TextsTest {
         Check.dueText("the order of bytes", Check.written(x, 0), "12x^10+3x^9+96x+4");
     }
 
-    private static void good(PolyLathe x, String text, String want) {
+    private static void good(Supplier<PolyLathe> maker, String text, String want) {
+        PolyLathe x = maker.get();
         Check.due("reading " + text, Check.read(x, 9, text), 0);
         Check.due("errorAt of " + text, x.errorAt(), -1);
         Check.dueText("the value of " + text, Check.written(x, 9), want);
     }
 
-    private static void bad(PolyLathe x, String text, int error, int at) {
+    private static void bad(Supplier<PolyLathe> maker, String text, int error, int at) {
+        PolyLathe x = maker.get();
         x.set(9, 5, 3);
         int before = x.degree(9);
         Check.due("reading " + text, Check.read(x, 9, text), error);
@@ -124,9 +129,13 @@ public final class TextsTest {
     }
 
     private static void readGood() {
-        PolyLathe x = new PolyLathe();
-        x.set(1, 3, 2);
-        x.set(1, 0, 5);
+        Supplier<PolyLathe> x = () -> {
+            PolyLathe made = new PolyLathe();
+            made.set(1, 3, 2);
+            made.set(1, 0, 5);
+            made.set(9, 24, 1);
+            return made;
+        };
         good(x, "0", "0");
         good(x, "7", "0");
         good(x, "9999", "3");
@@ -170,14 +179,16 @@ public final class TextsTest {
         good(x, "1+".repeat(199) + "x", "x+3");
         good(x, " ".repeat(399) + "x", "x");
         good(x, "x" + " ".repeat(399), "x");
-        x.set(9, 24, 1);
         good(x, "r9-r9+x", "x");
-        good(x, "r9^2+r9", "x^2+x");
+        good(x, "r9+r9", "2x^24");
     }
 
     private static void readBad() {
-        PolyLathe x = new PolyLathe();
-        x.set(1, 13, 2);
+        Supplier<PolyLathe> x = () -> {
+            PolyLathe made = new PolyLathe();
+            made.set(1, 13, 2);
+            return made;
+        };
         bad(x, "", 1, 0);
         bad(x, "   ", 1, 3);
         bad(x, "+x", 1, 0);
@@ -231,11 +242,12 @@ public final class TextsTest {
         bad(x, "(" + "1+".repeat(199) + "x", 1, 400);
         bad(x, "1+".repeat(198) + "x^25", 2, 397);
         bad(x, "x^13*(1+x^5*x^20)", 2, 11);
-        Check.type(x, "x+5");
-        Check.raises(x, "read -1", INDEX, () -> x.read(-1));
-        Check.raises(x, "read 10", INDEX, () -> x.read(10));
-        Check.due("the text is still there", x.read(0), 0);
-        Check.dueText("and it", Check.written(x, 0), "x+5");
+        PolyLathe y = new PolyLathe();
+        Check.type(y, "x+5");
+        Check.raises(y, "read -1", INDEX, () -> y.read(-1));
+        Check.raises(y, "read 10", INDEX, () -> y.read(10));
+        Check.due("the text is still there", y.read(0), 0);
+        Check.dueText("and it", Check.written(y, 0), "x+5");
     }
 
     private static void coefficients() {
