@@ -549,7 +549,7 @@ public final class PolyLathe {
             if (c != 0 && k > high) {
                 high = k;
             }
-            while (high >= 0 && row[high] == 0) {
+            while (high >= 0 && high < row.length && row[high] == 0) {
                 high--;
             }
         }

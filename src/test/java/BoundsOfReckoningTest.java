@@ -194,6 +194,71 @@ public final class BoundsOfReckoningTest {
         }
     }
 
+    // ---- registers that are the same
+
+    /** In the registers 0, 1 and 2 stand what can be joined by any sort; 3 and 4 take copies of two of them. */
+    private static PolyLathe withThree(int a, int b) {
+        PolyLathe x = new PolyLathe();
+        String[] texts = {"3*x^4+2*x+1", "5*x^3+x^2+4", "2*x^2+3*x"};
+        for (int r = 0; r <= 2; r++) {
+            Check.put(x, r, texts[r]);
+        }
+        Check.put(x, 3, texts[a]);
+        Check.put(x, 4, texts[b]);
+        return x;
+    }
+
+    private static void alike(String what, PolyLathe x, int to, PolyLathe y, int apart) {
+        Check.dueText(what, Check.written(x, to), Check.written(y, apart));
+    }
+
+    /** "registers can be the same, what is told is of those that were there ahead": reckon and power. */
+    private static void sameRegisters() {
+        for (int n = 0; n < 27; n++) {
+            int a = n % 3;
+            int b = n / 3 % 3;
+            int to = n / 9;
+            for (int sort = 0; sort <= 6; sort++) {
+                String what = "reckon(" + sort + ", " + a + ", " + b + ", " + to + ")";
+                PolyLathe x = withThree(a, b);
+                PolyLathe y = withThree(a, b);
+                Check.due(what, x.reckon(sort, a, b, to), y.reckon(sort, 3, 4, 5));
+                alike(what, x, to, y, 5);
+            }
+            String what = "power(" + a + ", 5, " + b + ", " + to + ")";
+            PolyLathe x = withThree(a, b);
+            PolyLathe y = withThree(a, b);
+            Check.due(what, x.power(a, 5, b, to), y.power(3, 5, 4, 5));
+            alike(what, x, to, y, 5);
+            Check.due("resultant", x.resultant(a, a), 0);
+        }
+    }
+
+    /** The same for divide and bezout. */
+    private static void sameRegistersOfTwo() {
+        for (int n = 0; n < 81; n++) {
+            int a = n % 3;
+            int b = n / 3 % 3;
+            int first = n / 9 % 3;
+            int second = n / 27;
+            String what = "(" + a + ", " + b + ", " + first + ", " + second + ")";
+            PolyLathe x = withThree(a, b);
+            PolyLathe y = withThree(a, b);
+            if (first == second) {
+                Check.raises(x, "divide" + what, ARGUMENT, () -> x.divide(a, b, first, second));
+                Check.raises(x, "bezout" + what, ARGUMENT, () -> x.bezout(a, b, first, second));
+                continue;
+            }
+            Check.due("divide" + what, x.divide(a, b, first, second), y.divide(3, 4, 5, 6));
+            alike("q of divide" + what, x, first, y, 5);
+            alike("r of divide" + what, x, second, y, 6);
+            PolyLathe z = withThree(a, b);
+            Check.due("bezout" + what, z.bezout(a, b, first, second), y.bezout(3, 4, 5, 6));
+            alike("s of bezout" + what, z, first, y, 5);
+            alike("t of bezout" + what, z, second, y, 6);
+        }
+    }
+
     // ---- divide, bezout, power, value, resultant
 
     private static void divided(String a, String b, String quotient, String rest) {
@@ -340,6 +405,9 @@ public final class BoundsOfReckoningTest {
         raised("x", 24, "x^24", "0");
         raised("x", 24, "x^24+1", "6");
         raised("x^23", 2, "x^24+1", "6x^22");
+        raised("x^24+x", 3, "x^2+1", "2x+5");
+        raised("x^24", 1000000, "x^2+1", "1");
+        raised("x^13", 2, "x^24", "0");
         raised("3", 999999, "x", "6");
         raised("3", 1000000, "x", "4");
         raised("x", 1000000, "x^24-1", "x^16");
@@ -558,6 +626,8 @@ public final class BoundsOfReckoningTest {
         commonDivisors();
         derivatives();
         monicAndUnusedRegisters();
+        sameRegisters();
+        sameRegistersOfTwo();
         division();
         divideInPlace();
         euclidsWay();
