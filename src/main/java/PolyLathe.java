@@ -594,7 +594,8 @@ public final class PolyLathe {
         }
 
         void scale(int c) {
-            for (int k = 0; k <= high; k++) {
+            int top = high;
+            for (int k = 0; k <= top; k++) {
                 put(k, field.times(at(k), c));
             }
         }

@@ -1,18 +1,14 @@
-import java.io.IOException;
 import java.lang.reflect.Constructor;
 import java.lang.reflect.Field;
 import java.lang.reflect.Method;
 import java.lang.reflect.Modifier;
-import java.nio.file.Files;
-import java.nio.file.Path;
 import java.util.ArrayList;
 import java.util.Arrays;
 import java.util.Collections;
 import java.util.List;
 import java.util.TreeSet;
-import java.util.regex.Pattern;
 
-/** The public face of the document, the rules of LANGUAGE.md that can be looked up, and a crowd of wrong arguments. */
+/** The public face of the document, and a crowd of wrong arguments. */
 public final class FaceTest {
     private static final String[] FACE = {
         "int begin(int) IllegalArgumentException",
@@ -44,11 +40,6 @@ public final class FaceTest {
         "double meanDegree()",
         "long digest()",
     };
-    private static final String[] OUTSIDE_THE_LANGUAGE = {
-        "->", "::", "\\bcatch\\b", "\\bfinally\\b", "\\bsynchronized\\b", "\\bassert\\b", "\\bpackage\\b", "\\bThread\\b",
-        "\\bSystem\\.(?!arraycopy)", "\\bObject\\b", "\\bhashCode\\b", "\\btoString\\b", "Exact\\(", "\\bvar\\b", "\\bextends\\b",
-        "import (?!java\\.util\\.(Arrays|ArrayList|List|Iterator|NoSuchElementException);)",
-    };
     private static final int[] ODD = {Integer.MIN_VALUE, -1, 0, 1, 2, 9, 10, 24, 25, 96, 97, 400, 401, 1000000, 1000001, Integer.MAX_VALUE};
 
     private FaceTest() {
@@ -69,11 +60,9 @@ public final class FaceTest {
     private static void face() {
         TreeSet<String> want = new TreeSet<>(Arrays.asList(FACE));
         TreeSet<String> got = new TreeSet<>();
-        TreeSet<String> names = new TreeSet<>();
         for (Method m : PolyLathe.class.getDeclaredMethods()) {
             if (!Modifier.isPrivate(m.getModifiers())) {
                 got.add(shown(m));
-                names.add(m.getName());
                 Check.holds(m + " is public and no more", m.getModifiers() == Modifier.PUBLIC);
             }
         }
@@ -87,27 +76,7 @@ public final class FaceTest {
         }
         for (Class<?> inside : PolyLathe.class.getDeclaredClasses()) {
             Check.holds(inside + " is static", Modifier.isStatic(inside.getModifiers()) && Modifier.isPrivate(inside.getModifiers()));
-            insideOne(inside, names);
         }
-    }
-
-    private static void insideOne(Class<?> inside, TreeSet<String> names) {
-        for (Method m : inside.getDeclaredMethods()) {
-            Check.holds(m + " has a name of its own", !names.contains(m.getName()));
-            Check.holds(m + " has at most seven parameters", m.getParameterCount() <= 7);
-        }
-        for (Field f : inside.getDeclaredFields()) {
-            Check.holds(f + " is no static state", !Modifier.isStatic(f.getModifiers()) || Modifier.isFinal(f.getModifiers()));
-        }
-    }
-
-    private static void language() throws IOException {
-        String source = Files.readString(Path.of("src/main/java/PolyLathe.java"));
-        String code = source.replaceAll("(?s)/\\*.*?\\*/", "").replaceAll("//[^\n]*", "").replaceAll("\"[^\"]*\"", "\"\"");
-        for (String outside : OUTSIDE_THE_LANGUAGE) {
-            Check.holds("no " + outside + " in the source", !Pattern.compile(outside).matcher(code).find());
-        }
-        Check.holds("signs 1 to 127", source.chars().allMatch(c -> c > 0 && c < 128));
     }
 
     private static Object argument(int i) {
@@ -151,9 +120,8 @@ public final class FaceTest {
         }
     }
 
-    public static void main(String[] args) throws IOException, IllegalAccessException {
+    public static void main(String[] args) throws IllegalAccessException {
         face();
-        language();
         oddArguments();
         Check.end("FaceTest");
     }
